@@ -59,6 +59,11 @@ public final class FaceTest {
             boolean isPrivate = Modifier.isPrivate(field.getModifiers());
             due(field.getName() + " is private", isPrivate, !field.getName().equals("NOTHING"));
         }
+        for (Class<?> inside : face.getDeclaredClasses()) {
+            int modifiers = inside.getModifiers();
+            boolean isHidden = !Modifier.isPublic(modifiers) && !Modifier.isProtected(modifiers);
+            due(inside + " is hidden and static", isHidden && Modifier.isStatic(modifiers), true);
+        }
         due("constructors", face.getDeclaredConstructors().length, 1);
         Constructor<?> maker = face.getConstructor(int.class);
         due("constructor", Modifier.toString(maker.getModifiers()), "public");

@@ -23,7 +23,8 @@ public final class PromiseTest {
             x.share();
             return false;
         } catch (ArithmeticException e) {
-            return true;
+            // The machine's own division must not be what throws.
+            return !"/ by zero".equals(e.getMessage());
         }
     }
 
@@ -360,6 +361,8 @@ public final class PromiseTest {
         due("late", x.late(), 9 + 2);
         x.job(30, 10, 20);
         due("late by release", x.late(), 9 + 2 + 400);
+        x.job(3, 500, 20);
+        due("ahead of due costs nothing", x.late(), 9 + 2 + 400);
         x.step(3, 0, 0);
         due("late without plan", x.late(), ShopRules.NOTHING);
     }
@@ -450,7 +453,53 @@ public final class PromiseTest {
         due("slack", x.when(20, 2), 19);
         due("swapped place 0", x.swapped(0, 0), 102);
         due("swapped place 1", x.swapped(0, 1), 51);
-        due("better passes over what has slack", x.better(), -3);
+        due("better passes over a second one with slack", x.better(), -3);
+        betterOfFirstWithSlack();
+    }
+
+    /** The long change from job 1 to 2 falls out when step 0, which has slack, comes between. */
+    private static void betterOfFirstWithSlack() {
+        ShopRules x = new ShopRules(2);
+        x.job(0, 0, 0);
+        x.job(5, 0, 0);
+        x.job(20, 0, 0);
+        for (int n = 0; n < 3; n++) {
+            x.step(n, 0, 1);
+            x.put(10 * n, n);
+        }
+        x.step(2, 1, 20);
+        x.put(21, 0);
+        x.change(0, 1, 2, 50);
+        x.change(0, 2, 1, 50);
+        due("span", x.span(), 77);
+        due("slack", x.when(0, 2), 4);
+        due("swapped place 0", x.swapped(0, 0), 41);
+        due("swapped place 1", x.swapped(0, 1), 72);
+        due("better passes over a first one with slack", x.better(), 1);
+    }
+
+    /** The machines wait for one another again and again, against the order of their numbers. */
+    private static void longChain() {
+        ShopRules x = new ShopRules(5);
+        for (int n = 0; n < 8; n++) {
+            x.job(0, 0, 0);
+            for (int k = 0; k < 6; k++) {
+                x.step(n, (9 - k) % 5, 1);
+                x.put(10 * n + k, x.at((9 - k) % 5, -1));
+            }
+        }
+        due("span of 48 steps in one row", x.span(), 48);
+        due("fill of 48 steps", x.fill(2), 48);
+        due("state of 48 steps", x.state(), 0);
+        ShopRules y = new ShopRules(2);
+        for (int n = 0; n < 8; n++) {
+            y.job(0, 0, 0);
+            for (int k = 0; k < 6; k++) {
+                y.step(n, 1 - k % 2, 1);
+                y.put(10 * n + k, y.at(1 - k % 2, -1));
+            }
+        }
+        due("span of one behind the other", y.span(), 6 + 7 * 5);
     }
 
     private static void part() {
@@ -556,6 +605,7 @@ public final class PromiseTest {
         late();
         swapped();
         better();
+        longChain();
         part();
         bound();
         boundAndLowOfMany();
