@@ -1,437 +1,21 @@
-import java.util.ArrayList;
-import java.util.HashMap;
 import java.util.List;
-import java.util.Map;
 import java.util.Random;
 
 /** Random runs of calls, each answer held against a slow model that follows the document's words. */
 public final class ModelTest {
     private static final int RUNS = 1500;
-    private static final int CALLS = 512;
-    private static final long THROWN = 777_777_777_777L;
+    private static final int MOST_WRONG = 10;
+    private static final Report REPORT = new Report();
     private static int wrong = 0;
-
-    /** The document's words, by trying all there is to try. */
-    private static final class Model {
-        final int machines;
-        final List<int[]> jobs = new ArrayList<>();
-        final List<List<int[]>> steps = new ArrayList<>();
-        final Map<String, Integer> changes = new HashMap<>();
-        final List<List<Integer>> orders = new ArrayList<>();
-
-        Model(int told) {
-            machines = told < 1 ? 1 : told > 5 ? 5 : told;
-            for (int m = 0; m < machines; m++) {
-                orders.add(new ArrayList<>());
-            }
-        }
-
-        static boolean outside(int value, int most) {
-            return value < 0 || value > most;
-        }
-
-        boolean noMachine(int m) {
-            return outside(m, machines - 1);
-        }
-
-        boolean noJob(int j) {
-            return outside(j, jobs.size() - 1);
-        }
-
-        List<Integer> all() {
-            List<Integer> all = new ArrayList<>();
-            for (int j = 0; j < jobs.size(); j++) {
-                for (int k = 0; k < steps.get(j).size(); k++) {
-                    all.add(10 * j + k);
-                }
-            }
-            return all;
-        }
-
-        boolean noStep(int s) {
-            return !all().contains(s);
-        }
-
-        int machineOf(int s) {
-            return steps.get(s / 10).get(s % 10)[0];
-        }
-
-        int timeOf(int s) {
-            return steps.get(s / 10).get(s % 10)[1];
-        }
-
-        List<Integer> orderOf(int s) {
-            return orders.get(machineOf(s));
-        }
-
-        int changeOf(int m, int a, int b) {
-            return changes.getOrDefault(m + "/" + a + "/" + b, 0);
-        }
-
-        int job(int release, int due, int weight) {
-            if (outside(release, 1000) || outside(due, 1000) || outside(weight, 20)) {
-                return -2;
-            }
-            if (jobs.size() == 8) {
-                return -4;
-            }
-            jobs.add(new int[] {release, due, weight});
-            steps.add(new ArrayList<>());
-            return jobs.size() - 1;
-        }
-
-        int step(int j, int m, int time) {
-            if (noJob(j)) {
-                return -1;
-            }
-            if (noMachine(m) || outside(time, 50)) {
-                return -2;
-            }
-            if (steps.get(j).size() == 6) {
-                return -4;
-            }
-            steps.get(j).add(new int[] {m, time});
-            return steps.get(j).size();
-        }
-
-        int change(int m, int a, int b, int t) {
-            if (noMachine(m) || noJob(a) || noJob(b) || a == b) {
-                return -1;
-            }
-            if (outside(t, 50)) {
-                return -2;
-            }
-            int was = changeOf(m, a, b);
-            changes.put(m + "/" + a + "/" + b, t);
-            return was;
-        }
-
-        int put(int s, int place) {
-            if (noStep(s)) {
-                return -1;
-            }
-            if (outside(place, orderOf(s).size())) {
-                return -2;
-            }
-            if (orderOf(s).contains(s)) {
-                return -3;
-            }
-            orderOf(s).add(place, s);
-            return orderOf(s).size();
-        }
-
-        int take(int s) {
-            if (noStep(s)) {
-                return -1;
-            }
-            int place = orderOf(s).indexOf(s);
-            if (place < 0) {
-                return -3;
-            }
-            orderOf(s).remove(place);
-            return place;
-        }
-
-        boolean noPair(int m, int place) {
-            return noMachine(m) || outside(place, orders.get(m).size() - 2);
-        }
-
-        int swap(int m, int place) {
-            if (noPair(m, place)) {
-                return -1;
-            }
-            List<Integer> order = orders.get(m);
-            order.add(place, order.remove(place + 1));
-            return 1;
-        }
-
-        int at(int m, int place) {
-            if (noMachine(m)) {
-                return -1;
-            }
-            if (place == -1) {
-                return orders.get(m).size();
-            }
-            return outside(place, orders.get(m).size() - 1) ? -1 : orders.get(m).get(place);
-        }
-
-        /** The steps that a step waits for: in its job, in its order. */
-        List<Integer> waitsFor(int s) {
-            List<Integer> before = new ArrayList<>();
-            if (s % 10 > 0) {
-                before.add(s - 1);
-            }
-            int place = orderOf(s).indexOf(s);
-            if (place > 0) {
-                before.add(orderOf(s).get(place - 1));
-            }
-            return before;
-        }
-
-        int state() {
-            List<Integer> left = all();
-            for (int s : left) {
-                if (!orderOf(s).contains(s)) {
-                    return 1;
-                }
-            }
-            boolean moved = true;
-            while (moved) {
-                moved = false;
-                for (int k = left.size() - 1; k >= 0; k--) {
-                    boolean free = true;
-                    for (int before : waitsFor(left.get(k))) {
-                        free &= !left.contains(before);
-                    }
-                    if (free) {
-                        left.remove(k);
-                        moved = true;
-                    }
-                }
-            }
-            return left.isEmpty() ? 0 : 2;
-        }
-
-        /** When a step begins if the step held does not begin before the time told. */
-        int begin(int s, int held, int until, Map<Integer, Integer> known) {
-            if (known.containsKey(s)) {
-                return known.get(s);
-            }
-            int begin = s == held ? until : 0;
-            if (s % 10 == 0) {
-                begin = Math.max(begin, jobs.get(s / 10)[0]);
-            }
-            for (int before : waitsFor(s)) {
-                int end = begin(before, held, until, known) + timeOf(before);
-                boolean inJob = before == s - 1 && s % 10 > 0;
-                boolean inOrder = orderOf(s).indexOf(before) >= 0
-                    && orderOf(s).indexOf(before) == orderOf(s).indexOf(s) - 1;
-                int change = inOrder ? changeOf(machineOf(s), before / 10, s / 10) : 0;
-                begin = Math.max(begin, inJob || inOrder ? end + change : 0);
-            }
-            known.put(s, begin);
-            return begin;
-        }
-
-        int begin(int s) {
-            return begin(s, -1, 0, new HashMap<>());
-        }
-
-        int spanHeld(int held, int until) {
-            Map<Integer, Integer> known = new HashMap<>();
-            int most = 0;
-            for (int s : all()) {
-                most = Math.max(most, begin(s, held, until, known) + timeOf(s));
-            }
-            return most;
-        }
-
-        int slack(int s) {
-            int now = spanHeld(-1, 0);
-            int begin = begin(s);
-            int later = 0;
-            while (spanHeld(s, begin + later + 1) <= now) {
-                later++;
-            }
-            return later;
-        }
-
-        int when(int s, int what) {
-            if (noStep(s)) {
-                return -1;
-            }
-            if (outside(what, 2)) {
-                return -2;
-            }
-            if (state() != 0) {
-                return -3;
-            }
-            return what == 2 ? slack(s) : begin(s) + what * timeOf(s);
-        }
-
-        int span() {
-            return state() == 0 ? spanHeld(-1, 0) : -3;
-        }
-
-        long late() {
-            if (state() != 0) {
-                return Long.MIN_VALUE;
-            }
-            long cost = 0;
-            for (int j = 0; j < jobs.size(); j++) {
-                int end = jobs.get(j)[0];
-                int count = steps.get(j).size();
-                if (count > 0) {
-                    end = begin(10 * j + count - 1) + timeOf(10 * j + count - 1);
-                }
-                cost += end > jobs.get(j)[1] ? (long) jobs.get(j)[2] * (end - jobs.get(j)[1]) : 0;
-            }
-            return cost;
-        }
-
-        int swapped(int m, int place) {
-            if (noPair(m, place)) {
-                return -1;
-            }
-            if (state() != 0) {
-                return -3;
-            }
-            swap(m, place);
-            int span = span();
-            swap(m, place);
-            return span;
-        }
-
-        int better() {
-            if (state() != 0) {
-                return -3;
-            }
-            int best = -3;
-            int least = span();
-            for (int m = 0; m < machines; m++) {
-                for (int place = 0; place < orders.get(m).size() - 1; place++) {
-                    int then = swapped(m, place);
-                    boolean less = then >= 0 && then < least;
-                    if (less && slack(orders.get(m).get(place)) == 0 && slack(orders.get(m).get(place + 1)) == 0) {
-                        least = then;
-                        best = 100 * m + place;
-                    }
-                }
-            }
-            return best;
-        }
-
-        int head(int s) {
-            int sum = jobs.get(s / 10)[0];
-            for (int before = s / 10 * 10; before < s; before++) {
-                sum += timeOf(before);
-            }
-            return sum;
-        }
-
-        int tail(int s) {
-            int sum = 0;
-            for (int behind = s + 1; behind % 10 < steps.get(s / 10).size(); behind++) {
-                sum += timeOf(behind);
-            }
-            return sum;
-        }
-
-        int part(int s, int what) {
-            if (noStep(s)) {
-                return -1;
-            }
-            return outside(what, 1) ? -2 : what == 0 ? head(s) : tail(s);
-        }
-
-        int leastOfAllOrders(List<Integer> left, int end, int most) {
-            if (left.isEmpty()) {
-                return most;
-            }
-            int least = Integer.MAX_VALUE;
-            for (int k = 0; k < left.size(); k++) {
-                int s = left.remove(k);
-                int then = Math.max(end, head(s)) + timeOf(s);
-                least = Math.min(least, leastOfAllOrders(left, then, Math.max(most, then + tail(s))));
-                left.add(k, s);
-            }
-            return least;
-        }
-
-        int bound(int m) {
-            if (noMachine(m)) {
-                return -1;
-            }
-            List<Integer> own = new ArrayList<>();
-            for (int s : all()) {
-                if (machineOf(s) == m) {
-                    own.add(s);
-                }
-            }
-            return own.size() > 8 ? -3 : leastOfAllOrders(own, 0, 0);
-        }
-
-        int low() {
-            int most = 0;
-            for (int m = 0; m < machines; m++) {
-                most = Math.max(most, bound(m));
-            }
-            for (int s : all()) {
-                most = Math.max(most, head(s) + timeOf(s) + tail(s));
-            }
-            return most;
-        }
-
-        long share() {
-            if (state() != 0) {
-                return Long.MIN_VALUE;
-            }
-            int low = low();
-            return low == 0 ? THROWN : 1000L * span() / low;
-        }
-
-        int nextOf(int j) {
-            for (int k = 0; k < steps.get(j).size(); k++) {
-                if (!orderOf(10 * j + k).contains(10 * j + k)) {
-                    return 10 * j + k;
-                }
-            }
-            return -1;
-        }
-
-        int wouldBegin(int s) {
-            orderOf(s).add(s);
-            int begin = begin(s);
-            orderOf(s).remove(orderOf(s).size() - 1);
-            return begin;
-        }
-
-        int measure(int rule, int s) {
-            int[] measures = {timeOf(s), jobs.get(s / 10)[1], -timeOf(s) - tail(s), wouldBegin(s)};
-            return measures[rule];
-        }
-
-        int fill(int rule) {
-            if (outside(rule, 3)) {
-                return -2;
-            }
-            for (List<Integer> order : orders) {
-                order.clear();
-            }
-            for (int round = 0; round < all().size(); round++) {
-                int first = -1;
-                for (int j = 0; j < jobs.size(); j++) {
-                    int s = nextOf(j);
-                    if (s >= 0 && (first < 0 || wouldBegin(s) + timeOf(s) < wouldBegin(first) + timeOf(first))) {
-                        first = s;
-                    }
-                }
-                int chosen = -1;
-                for (int j = 0; j < jobs.size(); j++) {
-                    int s = nextOf(j);
-                    if (s < 0 || machineOf(s) != machineOf(first)) {
-                        continue;
-                    }
-                    boolean counts = s == first || wouldBegin(s) < wouldBegin(first) + timeOf(first);
-                    if (counts && (chosen < 0 || measure(rule, s) < measure(rule, chosen))) {
-                        chosen = s;
-                    }
-                }
-                orderOf(chosen).add(chosen);
-            }
-            return all().size();
-        }
-    }
 
     /** One run: an object, its model, and what kind of shop is drawn. */
     private static final class Run {
         final int number;
         final Random random;
-        final ShopRules real;
+        final Real real;
         final Model model;
         final int mostTime;
         final int mostDate;
-        final int machines;
         final int mostJobs;
         final StringBuilder told = new StringBuilder();
 
@@ -439,9 +23,8 @@ public final class ModelTest {
             this.number = number;
             random = new Random(number);
             int drawn = random.nextInt(9) - 1;
-            real = new ShopRules(drawn);
+            real = new Real(drawn);
             model = new Model(drawn);
-            machines = model.machines;
             mostTime = new int[] {0, 2, 5, 12, 50}[random.nextInt(5)];
             mostDate = new int[] {0, 3, 20, 1000}[random.nextInt(4)];
             mostJobs = 1 + random.nextInt(8);
@@ -466,6 +49,14 @@ public final class ModelTest {
             }
         }
 
+        int nearMachine() {
+            return near(model.machines - 1);
+        }
+
+        int nearJob() {
+            return near(model.jobs.size() - 1);
+        }
+
         int nearStep() {
             List<Integer> all = model.all();
             if (all.isEmpty() || random.nextInt(20) == 0) {
@@ -482,15 +73,17 @@ public final class ModelTest {
             return random.nextInt(40) == 0 ? 49 + random.nextInt(3) : random.nextInt(40) == 0 ? -1 : upTo(mostTime);
         }
 
-        int someOrderPlace(int m) {
-            return near(m >= 0 && m < machines ? model.orders.get(m).size() - 2 : 0);
+        /** A machine and a place of its order. */
+        String spot() {
+            int machine = nearMachine();
+            return machine + " " + near(model.noMachine(machine) ? 0 : model.orders.get(machine).size() - 2);
         }
 
-        void due(String call, long got, long want) {
+        void due(String call) {
+            String got = Words.answer(real, call);
             told.append('\n').append(call).append(" = ").append(got);
-            if (got != want) {
+            if (!REPORT.due("run " + number, call, got, Words.answer(model, call))) {
                 wrong++;
-                System.out.println("run " + number + ": " + call + " answered " + got + ", due is " + want);
                 if (wrong == 1) {
                     System.out.println(told);
                 }
@@ -498,126 +91,103 @@ public final class ModelTest {
         }
 
         void build() {
-            int a = nearDate(mostDate);
-            int b = nearDate(mostDate + mostTime * 4 > 1000 ? 1000 : mostDate + mostTime * 4);
-            int c = near(20);
-            int j = near(model.jobs.size() - 1);
-            int m = near(machines - 1);
-            int t = nearTime();
             switch (random.nextInt(8)) {
                 case 0:
                     if (model.jobs.size() < mostJobs || random.nextInt(30) == 0) {
-                        due("job(" + a + ", " + b + ", " + c + ")", real.job(a, b, c), model.job(a, b, c));
+                        int latest = Math.min(1000, mostDate + mostTime * 4);
+                        due("job " + nearDate(mostDate) + " " + nearDate(latest) + " " + near(20));
                     }
                     break;
                 case 1:
                 case 2:
-                    int other = near(model.jobs.size() - 1);
-                    due("change(" + m + ", " + j + ", " + other + ", " + t + ")", real.change(m, j, other, t),
-                        model.change(m, j, other, t));
+                    due("change " + nearMachine() + " " + nearJob() + " " + nearJob() + " " + nearTime());
                     break;
                 default:
-                    due("step(" + j + ", " + m + ", " + t + ")", real.step(j, m, t), model.step(j, m, t));
+                    due("step " + nearJob() + " " + nearMachine() + " " + nearTime());
                     break;
             }
         }
 
         void order() {
-            int s = nearStep();
-            int m = near(machines - 1);
-            int place = someOrderPlace(m);
             switch (random.nextInt(10)) {
                 case 0:
-                    due("take(" + s + ")", real.take(s), model.take(s));
+                    due("take " + nearStep());
                     break;
                 case 1:
-                    due("swap(" + m + ", " + place + ")", real.swap(m, place), model.swap(m, place));
+                    due("swap " + spot());
                     break;
                 case 2:
-                    due("at(" + m + ", " + place + ")", real.at(m, place), model.at(m, place));
+                    due("at " + spot());
                     break;
                 case 3:
                 case 4:
-                    int rule = near(3);
-                    due("fill(" + rule + ")", real.fill(rule), model.fill(rule));
+                    due("fill " + near(3));
                     break;
                 default:
-                    int to = near(model.noStep(s) ? 0 : model.orderOf(s).size());
-                    due("put(" + s + ", " + to + ")", real.put(s, to), model.put(s, to));
+                    int step = nearStep();
+                    due("put " + step + " " + near(model.noStep(step) ? 0 : model.orderOf(step).size()));
                     break;
             }
         }
 
         void ask() {
-            int s = nearStep();
-            int m = near(machines - 1);
-            int place = someOrderPlace(m);
-            int what = near(2);
             switch (random.nextInt(24)) {
                 case 0:
-                    due("state()", real.state(), model.state());
+                    due("state");
                     break;
                 case 1:
-                    due("span()", real.span(), model.span());
+                    due("span");
                     break;
                 case 2:
-                    due("late()", real.late(), model.late());
+                    due("late");
                     break;
                 case 3:
                 case 4:
                 case 5:
                 case 6:
-                    due("swapped(" + m + ", " + place + ")", real.swapped(m, place), model.swapped(m, place));
+                    due("swapped " + spot());
                     break;
                 case 7:
-                    due("better()", real.better(), model.better());
+                    due("better");
                     break;
                 case 8:
                 case 9:
-                    due("part(" + s + ", " + what + ")", real.part(s, what), model.part(s, what));
+                    due("part " + nearStep() + " " + near(1));
                     break;
                 case 10:
-                    askBounds(m);
+                    askBounds();
                     break;
                 case 11:
                 case 12:
-                    due("at(" + m + ", " + place + ")", real.at(m, place), model.at(m, place));
+                    due("at " + spot());
                     break;
                 default:
-                    due("when(" + s + ", " + what + ")", real.when(s, what), model.when(s, what));
+                    due("when " + nearStep() + " " + near(2));
                     break;
             }
         }
 
         /** All orders of eight steps take the model long, so this is asked seldom. */
-        void askBounds(int m) {
+        void askBounds() {
             if (model.all().size() > 25 && random.nextInt(12) > 0) {
                 return;
             }
             switch (random.nextInt(3)) {
                 case 0:
-                    due("bound(" + m + ")", real.bound(m), model.bound(m));
+                    due("bound " + nearMachine());
                     break;
                 case 1:
-                    due("low()", real.low(), model.low());
+                    due("low");
                     break;
                 default:
-                    due("share()", realShare(), model.share());
+                    due("share");
                     break;
-            }
-        }
-
-        long realShare() {
-            try {
-                return real.share();
-            } catch (ArithmeticException e) {
-                return THROWN;
             }
         }
 
         void all() {
-            int length = 30 + random.nextInt(CALLS - 30);
-            for (int call = 0; call < length && wrong < 10; call++) {
+            int length = 30 + random.nextInt(Real.MOST_CALLS - 30);
+            for (int call = 0; call < length && wrong < MOST_WRONG; call++) {
                 int kind = random.nextInt(100);
                 int building = 50 * (length - call) / length;
                 if (kind < building / (call > length / 3 ? 10 : 1)) {
@@ -633,12 +203,9 @@ public final class ModelTest {
 
     public static void main(String[] args) {
         int runs = args.length > 0 ? Integer.parseInt(args[0]) : RUNS;
-        for (int number = 0; number < runs && wrong < 10; number++) {
+        for (int number = 0; number < runs && wrong < MOST_WRONG; number++) {
             new Run(number).all();
         }
-        System.out.println(wrong == 0 ? "all runs are as the model's" : wrong + " answers are not as the model's");
-        if (wrong != 0) {
-            System.exit(1);
-        }
+        REPORT.end();
     }
 }
