@@ -157,6 +157,11 @@ public final class SentenceTest {
                 "change 0 0 3 -1 = -1", "change 0 1 1 51 = -1", "change MAX MAX MAX MAX = -1",
                 "change MIN MIN MIN MIN = -1", "change 0 -1 -1 51 = -1");
         }
+        unchanging("4: -1 a is b, where STEPS of a JOB are neighbours", Scenes.sixSteps(), "change 0 0 0 7 = -1",
+            "change 1 0 0 50 = -1", "change 1 1 1 1 = -1", "change 0 0 0 51 = -1");
+        test("4: to the same JOB it stays 0", 1, "job 0 0 0; step 0 0 1; step 0 0 2; fill 0; change 0 0 0 50 = -1",
+            "span = 3",
+            "when 1 0 = 1; fill 2; span = 3");
         refusedOutside("4: -1 no such JOB of eight", Scenes.eightJobs(), "change 0 # 1 7", 7, -1);
         refusedOutside("4: -1 no such JOB of eight", Scenes.eightJobs(), "change 0 1 # 7", 7, -1);
         test("4: THE PLAN has it at once", 1, "job 0 0 0; job 0 0 0; step 0 0 3; step 1 0 4; put 0 0; put 10 1",
@@ -315,6 +320,10 @@ public final class SentenceTest {
                 "step 0 0 9; fill " + rule,
                 "at 0 0 = 0; at 0 1 = 1; at 0 2 = 2");
         }
+        test("9: all ORDERS are emptied, also those of a fill before", 1, "job 0 0 0; step 0 0 1; step 0 0 1",
+            "fill 0; fill 1",
+            "state = 0; at 0 -1 = 2; take 1 = 1; state = 1; put 1 1 = 2; state = 0; take 0; take 1; state = 1",
+            "fill 2; state = 0");
         fillRivals();
         fillRules();
     }
@@ -332,6 +341,22 @@ public final class SentenceTest {
             "change 0 1 0 50; step 0 0 2; step 1 0 1; fill 0; at 0 0 = 10; when 10 0 = 0; when 0 0 = 51");
         test("9: CHANGE to the same JOB is 0", 1, "job 0 0 0; job 0 0 0; change 0 0 1 1; change 0 1 0 50",
             "step 0 0 2; step 0 0 3; step 1 0 3; fill 3; at 0 0 = 0; at 0 1 = 1; at 0 2 = 10; span = 9");
+        test("9: not one that would begin behind that end", 1, "job 0 9 0; job 4 0 0; " + two + "at 0 0 = 0",
+            "at 0 1 = 10");
+        test("9: not one of a lesser JOB that would begin behind that end", 1, "job 5 0 0; job 0 9 0; " + two
+            + "at 0 0 = 10; at 0 1 = 0");
+        test("9: itself, though it would not begin before that end", 1, "job 5 0 0; job 4 0 0; step 0 0 0; step 1 0 1",
+            "fill 0; at 0 0 = 0; at 0 1 = 10; fill 3; at 0 0 = 10; at 0 1 = 0");
+        test("9: the one that would end first tells, not that would begin first", 1, "job 0 5 0; job 5 9 0; job 7 0 0",
+            "step 0 0 9; step 1 0 1; step 2 0 1; fill 1; at 0 0 = 0; at 0 1 = 20; at 0 2 = 10");
+        test("9: CHANGE from the last one of the ORDER", 1, "job 3 0 0; job 0 0 0; job 0 9 0; step 1 0 1",
+            "step 1 0 1; step 2 0 4",
+            "step 0 0 4; change 0 1 2 50; change 0 1 0 2; fill 1; at 0 0 = 10; at 0 1 = 11; at 0 2 = 0; at 0 3 = 20",
+            "when 0 0 = 4; change 0 1 0 40; change 0 1 2 3; fill 0; at 0 1 = 11; at 0 2 = 20; at 0 3 = 0",
+            "when 20 0 = 5");
+        test("9: only NEXT on the MACHINE that was told", 2, "job 0 9 0; job 0 5 0; job 5 0 0; step 0 0 4",
+            "step 1 1 9; step 2 1 2",
+            "fill 1; at 0 0 = 0; at 1 0 = 20; at 1 1 = 10");
         test("9: only NEXT on the MACHINE that was told", 2, "job 0 9 0; job 0 0 0; step 0 0 3; step 1 1 5; fill 1",
             "at 0 0 = 0; at 1 0 = 10");
         test("9: NEXT would not begin before that before it in its JOB ends", 2, "job 0 9 0; job 0 0 0; step 0 0 5",
@@ -572,6 +597,9 @@ public final class SentenceTest {
         test("17: one at a time", 1, "job 5 0 0; job 5 0 0; step 0 0 50; step 1 0 50; bound 0 = 105");
         test("17: CHANGE does not count", 1, "job 0 0 0; job 0 0 0; change 0 0 1 50; change 0 1 0 50; step 0 0 3",
             "step 1 0 4; bound 0 = 7; fill 0; bound 0 = 7");
+        test("17: CHANGE does not count, where the order matters", 2, "job 0 0 0; job 1 0 0; change 0 0 1 50",
+            "change 0 1 0 50",
+            "step 0 0 10; step 1 0 1; step 1 1 20; bound 0 = 22");
         test("17: OPEN STEPS and those in a RING count too", 1, "job 0 0 0; step 0 0 3; step 0 0 4; bound 0 = 7",
             "put 1 0; bound 0 = 7; put 0 1",
             "state = 2; bound 0 = 7; step 0 0 9; bound 0 = 16; job 2 0 0; bound 0 = 16; step 1 0 20; bound 0 = 36");
@@ -594,6 +622,9 @@ public final class SentenceTest {
         test("18: of a MACHINE of 8 STEPS, not of 9", 1, eightSteps(10) + "low = 80; step 1 0 10; low = 60");
         test("18: though another MACHINE has more", 2, eightSteps(1) + "step 1 0 1; low = 6; job 0 0 0; step 2 1 30",
             "low = 30; step 1 1 30; low = 60");
+        test("18: a JOB of one STEP counts, without THE BOUND of its MACHINE", 1, eightSteps(10) + "job 1000 0 0",
+            "step 2 0 5",
+            "bound 0 = -3; low = 1005");
         test("18: a JOB without STEPS does not count", 1, "job 3 0 0; job 1000 0 0; step 0 0 1; low = 4");
         test("18: of the last JOB and MACHINE", 5, "job 0 0 0; job 9 0 0; step 0 0 1; step 1 4 5; low = 14",
             "job 14 0 0; step 2 4 7; low = 21; job 0 0 0; step 3 4 2; low = 21; step 3 4 9; low = 23");
