@@ -354,6 +354,10 @@ public final class SentenceTest {
             "step 0 0 4; change 0 1 2 50; change 0 1 0 2; fill 1; at 0 0 = 10; at 0 1 = 11; at 0 2 = 0; at 0 3 = 20",
             "when 0 0 = 4; change 0 1 0 40; change 0 1 2 3; fill 0; at 0 1 = 11; at 0 2 = 20; at 0 3 = 0",
             "when 20 0 = 5");
+        test("9: CHANGE from the last one of the ORDER, not from its first", 1, "job 0 0 0; job 0 0 0; job 0 0 0",
+            "job 0 0 0; step 0 0 1; step 1 0 2; step 2 0 3; step 3 0 9; change 0 0 2 50; fill 0; at 0 0 = 0",
+            "at 0 1 = 10; at 0 2 = 20; at 0 3 = 30; when 20 0 = 3; change 0 1 2 50; change 0 0 2 0; fill 0",
+            "at 0 0 = 0; at 0 1 = 10; at 0 2 = 30; at 0 3 = 20; when 30 0 = 3");
         test("9: only NEXT on the MACHINE that was told", 2, "job 0 9 0; job 0 5 0; job 5 0 0; step 0 0 4",
             "step 1 1 9; step 2 1 2",
             "fill 1; at 0 0 = 0; at 1 0 = 20; at 1 1 = 10");
@@ -375,6 +379,15 @@ public final class SentenceTest {
         test("9: rule 2 of like ones the least JOB", 2, jobs + steps + "step 1 1 1; fill 2; at 0 0 = 10",
             "at 0 1 = 20; at 0 2 = 0");
         test("9: rule 3 that would begin first", 1, jobs + steps + "fill 3; at 0 0 = 10; at 0 1 = 0; at 0 2 = 20");
+        String likeOnes = "; at 0 0 = 0; at 0 1 = 10";
+        test("9: rule 0 of like ones the least JOB, whatever else", 2, "job 2 9 0; job 0 1 20; step 0 0 5; step 1 0 5",
+            "step 1 1 9; fill 0" + likeOnes);
+        test("9: rule 1 of like ones the least JOB, whatever else", 2, "job 2 5 0; job 0 5 20; step 0 0 9; step 1 0 4",
+            "step 1 1 30; fill 1" + likeOnes);
+        test("9: rule 2 of like ones the least JOB, whatever else", 2, "job 2 9 0; job 0 1 20; step 0 0 9; step 1 0 4",
+            "step 1 1 5; fill 2" + likeOnes);
+        test("9: rule 3 of like ones the least JOB, whatever else", 2, "job 0 9 0; job 0 1 20; step 0 0 9; step 1 0 4",
+            "step 1 1 30; fill 3" + likeOnes);
         test("9: rule 2 counts no TIME that is behind it already", 2, "job 3 0 0; job 0 0 0; step 0 0 4; step 1 1 3",
             "step 1 0 2; fill 2; at 0 0 = 0; at 0 1 = 11");
         test("9: rule 3 counts CHANGE", 1, "job 0 0 0; job 0 0 0; job 0 0 0; step 0 0 1; step 1 0 4; step 2 0 5",
@@ -474,6 +487,8 @@ public final class SentenceTest {
         test("13: all JOBS", 2, "job 0 0 2; job 0 0 3; step 0 0 4; step 1 1 5; fill 0; late = 23");
         test("13: RELEASE without STEPS", 1, "job 7 3 5; late = 20; job 3 7 5; late = 20; job 7 7 20; late = 20",
             "job 1000 0 20; late = 20020");
+        test("13: RELEASE without STEPS, beside JOBS that have some", 1, "job 0 3 2; job 9 4 3; step 0 0 5; fill 0",
+            "late = 19; step 1 0 1; late = NOTHING; fill 0; late = 22");
         test("13: the end of its last STEP", 2, "job 0 10 2; step 0 0 8; step 0 1 5; fill 0; late = 6");
         test("13: 0 without JOBS", 1, "late = 0");
         unchanging("13: NOTHING: no PLAN", Scenes.open(), "late = NOTHING");
@@ -603,6 +618,21 @@ public final class SentenceTest {
         test("17: OPEN STEPS and those in a RING count too", 1, "job 0 0 0; step 0 0 3; step 0 0 4; bound 0 = 7",
             "put 1 0; bound 0 = 7; put 0 1",
             "state = 2; bound 0 = 7; step 0 0 9; bound 0 = 16; job 2 0 0; bound 0 = 16; step 1 0 20; bound 0 = 36");
+        boundOfSomeOrder();
+    }
+
+    private static void boundOfSomeOrder() {
+        test("17: each is begun once, not again and again", 2, "job 0 0 0; job 5 0 0; step 0 0 10; step 1 0 1",
+            "step 0 1 10; step 1 1 14",
+            "bound 0 = 25; bound 1 = 30; low = 30");
+        test("17: one of no TIME comes ahead or behind, not within", 2, "job 0 0 0; job 5 0 0; step 0 0 10",
+            "step 1 0 0; step 0 1 10; step 1 1 15; bound 0 = 25");
+        test("17: in some order, and be it the second of a JOB ahead of its first", 2, "job 0 0 0; job 0 0 0",
+            "job 11 0 0; job 30 0 0; step 0 0 10; step 0 0 1; step 0 1 20; step 1 0 10; step 1 1 41; step 2 0 9",
+            "step 2 1 31; step 3 0 10; step 3 1 11; part 0 0 = 0; part 0 1 = 21; part 1 0 = 10; part 1 1 = 20",
+            "bound 0 = 51");
+        test("17: in some order, the best of all", 2, "job 5 0 0; job 4 0 0; job 8 0 0; step 0 0 5; step 1 0 6",
+            "step 2 0 6; step 0 1 9; step 1 1 7; step 2 1 11; bound 0 = 29");
     }
 
     /** Each job's step waits for the one before: any other order is worse. */
